@@ -11,6 +11,8 @@ final class FollowTest {
         rooms();
         moves();
         roomsByRows();
+        manyDuties();
+        ninePieces();
         Due.finish();
     }
 
@@ -219,6 +221,82 @@ final class FollowTest {
         dueRooms(x, 2, 0, 2, 2);
         x.starts(3, 14);
         dueRooms(x, 2, 0, 1, 1);
+    }
+
+    /** Ten who are kept three times on each of three days. */
+    private static void manyDuties() {
+        ClashDays x = new ClashDays();
+        for (int p = 0; p < 12; p++) {
+            x.paper(p / 4, 0, 1);
+        }
+        for (int c = 0; c < 10; c++) {
+            x.cand(0, 0);
+            for (int p = 0; p < 12; p++) {
+                x.takes(c, p, 1);
+            }
+        }
+        dueWatch(x, 90, 10, 10);
+        for (int i = 0; i < 90; i++) {
+            dueDuty(x, i, i % 10, i / 30, i / 10 % 3 * 2 + 1, 1, i % 10);
+        }
+        Due.due("30 no i-th", x.duty(90, 0), -52);
+        x.turn(2);
+        dueWatch(x, 90, 20, 20);
+        x.turn(8);
+        dueWatch(x, 90, 30, 30);
+    }
+
+    /** What came over, four papers, and one is kept ahead of each of them. */
+    private static void ninePieces() {
+        ClashDays x = Due.withBook("paper 0 47 2;paper 1 0 1;paper 1 0 1;paper 1 0 1;paper 1 0 1;cand 0 0;takes 0 0;takes 0 1;"
+            + "takes 0 2;takes 0 3;takes 0 4;night 0");
+        duePieces(x, 0, 1, 9, -1);
+        dueRooms(x, 0, 1, -1, -1, -1, -1, -1, -1, -1, -1, -1);
+        x.room(1);
+        x.room(1);
+        duePieces(x, 0, 1, 9, 0);
+        dueRooms(x, 0, 1, 0, 0, 0, 0, 0, 0, 0, 0, 0);
+        Due.due("33 left", x.left(0, 1, 9), 0);
+        Due.due("33 left", x.left(0, 1, 10), 1);
+        // three others, each in room 0 or 1 for a while, so that it goes to and fro
+        ClashDays y = Due.withBook("paper 0 47 2;paper 1 0 1;paper 1 0 1;paper 1 0 1;paper 1 0 1;paper 1 4 1;paper 1 7 1;paper 1 5 1;"
+            + "paper 1 8 1;cand 0 0;cand 0 0;cand 0 0;cand 0 0;room 1;room 1");
+        y.takes(0, 5, 1);
+        y.takes(1, 5, 1);
+        duePieces(y, 1, 1, 1, 0);
+        dueRooms(y, 0, 1, 0);
+        dueRooms(y, 1, 1, 1);
+        y.takes(1, 5, 0);
+        y.takes(1, 7, 1);
+        y.takes(2, 6, 1);
+        y.takes(0, 7, 1);
+        // cand 0: 4, kept 5, 6; cand 1: 5; cand 2: 7
+        dueRooms(y, 0, 1, 0, 0, 0);
+        dueRooms(y, 1, 1, 1);
+        dueRooms(y, 2, 1, 0);
+        for (int p = 0; p < 5; p++) {
+            y.takes(3, p, 1);
+        }
+        y.night(3, 1);
+        // room 0 is taken in 4 to 7, room 1 in 5: no room in 5
+        duePieces(y, 3, 1, 9, -1);
+        y.takes(1, 7, 0);
+        duePieces(y, 3, 1, 9, 0);
+        dueRooms(y, 3, 1, 1, 1, 1, 1, 1, 1, 1, 1, 1);
+        y.takes(1, 8, 1);
+        y.takes(1, 6, 1);
+        // cand 1 sits in room 1 in 7 and in 9, so cand 2 in 7 has none, and cand 3 in 7 none either
+        Due.due("24 begin", y.sits(1, 1, 1, 1), 9);
+        duePieces(y, 3, 1, 9, -1);
+        y.takes(0, 5, 0);
+        y.takes(0, 7, 0);
+        y.takes(2, 6, 0);
+        duePieces(y, 1, 1, 3, 0);
+        dueRooms(y, 1, 1, 0, 0, 0);
+        y.takes(2, 5, 1);
+        dueRooms(y, 2, 1, 0);
+        duePieces(y, 3, 1, 9, 0);
+        dueRooms(y, 3, 1, 1, 1, 1, 1, 1, 1, 1, 1, 1);
     }
 
     private static void roomsByRows() {

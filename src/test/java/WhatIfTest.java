@@ -100,16 +100,33 @@ final class WhatIfTest {
         Due.due("37 nothing changed", x.plan(0, 0, 1), 1);
         x.starts(0, 7);
         Due.due("37 the least", x.retime(1), 0);
-        // fewest days first: with 0 at 40 only a start up to 33 lets both be sat
+        // fewest days first: 9 and a rest have to be over at 42
         ClashDays y = Due.withBook("paper 1 42 6;paper 1 47 9;cand 0 0;cand 3 9;takes 0 0;takes 0 1;takes 1 1");
         Due.due("37 as it is", y.candOf(0, 5) + y.candOf(1, 5), 2);
         Due.due("37 retime", y.retime(1), 0);
         y.starts(0, 0);
-        // cand 1 has 9 and 9 and 1 and must begin at 28 or ahead of that; cand 0 begins at 7
+        // cand 1 has 9 and 9 and 1 and must begin at 29 or ahead of that; cand 0 begins at 7
         Due.due("37 retime", y.retime(1), 7);
         ClashDays z = Due.withBook("paper 0 47 12;paper 1 0 12;paper 1 0 12;cand 0 0;takes 0 0;takes 0 1;takes 0 2;night 0;hours 30");
         // over at night it makes day 1 one on which one lets something go over too
         Due.due("37 retime", z.retime(0), 0);
+        // each time anew, whatever was summed up ahead of it
+        ClashDays w = Due.withBook("paper 0 0 1;paper 0 47 1;cand 0 0;takes 0 0;takes 0 1");
+        Due.due("37 first", w.retime(0), 0);
+        w.starts(1, 0);
+        Due.due("37 again", w.retime(0), 2);
+        Due.due("37 again", w.retime(0), 2);
+        w.hours(8);
+        w.paper(0, 3, 8);
+        w.takes(0, 2, 1);
+        Due.due("37 one can't with any", w.retime(2), 0);
+        w.takes(0, 2, 0);
+        Due.due("37 again", w.retime(0), 2);
+        // behind what came over and a rest one begins at 3 at the earliest
+        ClashDays v = Due.withBook("paper 0 47 2;paper 1 0 1;cand 0 0;takes 0 0;takes 0 1;night 0");
+        Due.due("37 FREE", v.retime(1), 3);
+        v.takes(0, 0, 0);
+        Due.due("37 0", v.retime(1), 0);
         Due.due("37 no paper", z.retime(3), -52);
         Due.due("37 no paper", z.retime(-1), -52);
     }
@@ -177,6 +194,9 @@ final class WhatIfTest {
         Due.due("39 fewer elements", x.kinds(0, 2, 12), -52);
         x.show(3, 0);
         Due.due("39 OTHER", x.kinds(0, 3, 1), -53);
+        Due.due("39 n ahead of OTHER", x.kinds(0, 3, 13), -52);
+        Due.due("39 n ahead of NOTHING", x.kinds(0, 4, -1), -52);
+        Due.due("39 OTHER ahead of how many", x.kinds(0, 3, 12), -53);
         Due.due("39 NOTHING", x.kinds(0, 4, 1), -54);
         Due.due("39 shelf 8", x.kinds(0, 8, 1), -52);
         Due.due("39 shelf -1", x.kinds(0, -1, 1), -52);
@@ -220,6 +240,10 @@ final class WhatIfTest {
         Due.due("40 n -1", x.judge(0, 0, 2, -1), -52);
         x.show(3, 0);
         Due.due("40 OTHER", x.judge(0, 0, 3, 1), -53);
+        Due.due("40 n ahead of OTHER", x.judge(0, 0, 3, 13), -52);
+        Due.due("40 n ahead of NOTHING", x.judge(0, 0, 4, -1), -52);
+        x.row(2, 4, 40);
+        Due.due("40 n 13", x.judge(0, 0, 2, 13), -52);
         Due.due("40 NOTHING", x.judge(0, 0, 4, 1), -54);
         Due.due("40 shelf 8", x.judge(0, 0, 8, 1), -52);
         Due.due("40 shelf -1", x.judge(0, 0, -1, 1), -52);
