@@ -15,10 +15,11 @@ final class AnyArgumentsTest {
     private static final String BOOK = "paper 0 4 6;paper 0 6 8;paper 0 40 9;paper 1 3 3;paper 2 47 12;cand 4 7;cand 3 2;cand 0 0;"
         + "takes 0 0;takes 0 1;takes 0 2;takes 1 0;takes 1 2;takes 1 3;takes 2 4;night 0;night 2;room 2;room 1;turn 2";
 
+    private static final List<Method> FACE = face();
+
     public static void main(String[] args) throws Exception {
-        for (int i = 0; i < 150; i++) {
-            long first = run(i, true);
-            Due.due("run " + i + " again", run(i, false), first);
+        for (int i = 0; i < 600; i++) {
+            run(i);
         }
         makesNothing();
         Due.finish();
@@ -45,71 +46,82 @@ final class AnyArgumentsTest {
         return with;
     }
 
-    private static long run(int i, boolean look) throws Exception {
-        Random random = new Random(i);
-        ClashDays x = i % 3 == 0 ? new ClashDays() : Due.withBook(BOOK);
-        long all = 0;
-        for (int k = 0; k < 250; k++) {
-            Method m = face().get(random.nextInt(45));
-            Object[] with = drawn(m, random);
-            long before = look ? seen(x) : 0;
-            long answer = ((Number) m.invoke(x, with)).longValue();
-            all = all * 31 + answer;
-            boolean refused = answer <= -52 && answer >= -56 && !m.getName().equals("seed") && !m.getName().equals("element");
-            if (look && (refused || TELL.contains(" " + m.getName() + " "))) {
-                Due.due("what is behind " + m.getName() + " in run " + i, seen(x), before);
+    /** Calls with drawn arguments, and what they answered. */
+    private static final class Run {
+        final List<Method> methods = new ArrayList<>();
+        final List<Object[]> with = new ArrayList<>();
+        final List<Long> answers = new ArrayList<>();
+
+        Run(int seed) {
+            Random random = new Random(seed);
+            for (int k = 0; k < 100; k++) {
+                Method m = FACE.get(random.nextInt(FACE.size()));
+                methods.add(m);
+                with.add(drawn(m, random));
             }
         }
-        return all;
+
+        long answer(ClashDays x, int k) throws Exception {
+            return ((Number) methods.get(k).invoke(x, with.get(k))).longValue();
+        }
+
+        /** Whether a call was refused or only tells: then it changed nothing. */
+        boolean changedNothing(int k) {
+            String name = methods.get(k).getName();
+            boolean mayBeAny = name.equals("seed") || name.equals("element") || name.equals("status");
+            boolean refused = answers.get(k) <= -52 && answers.get(k) >= -56 && !mayBeAny;
+            return refused || TELL.contains(" " + name + " ");
+        }
     }
 
-    /** All that can be seen of an object, but its refusals, in one number. */
-    private static long seen(ClashDays x) {
-        long all = 0;
-        for (int what = 0; what < 10; what++) {
-            all = all * 31 + x.status(what);
-        }
-        for (int s = 0; s < 8; s++) {
-            all = all * 31 + x.holds(s);
-            for (int i = 0; i < 40; i++) {
-                all = all * 31 + x.element(s, i);
-            }
-        }
-        for (int p = 0; p < x.status(0); p++) {
-            for (int what = 0; what < 5; what++) {
-                all = all * 31 + x.paperOf(p, what);
-            }
-        }
-        for (int c = 0; c < x.status(1); c++) {
-            for (int what = 0; what < 6; what++) {
-                all = all * 31 + x.candOf(c, what);
-            }
-            for (int day = 0; day < 5; day++) {
-                for (int what = 0; what < 7; what++) {
-                    all = all * 31 + x.plan(c, day, what);
-                }
-                all = all * 31 + x.pieces(c, day, 1);
-            }
-        }
-        for (int r = 0; r < x.status(2); r++) {
-            all = all * 31 + x.left(r, 4, 47);
-        }
-        return all * 31 + x.watch(1);
+    private static ClashDays begun(int i) {
+        return i % 3 == 0 ? new ClashDays() : Due.made(BOOK);
     }
 
+    private static void run(int i) throws Exception {
+        Run run = new Run(i);
+        ClashDays all = begun(i);
+        for (int k = 0; k < run.methods.size(); k++) {
+            run.answers.add(run.answer(all, k));
+        }
+        ClashDays again = begun(i);
+        ClashDays changes = begun(i);
+        for (int k = 0; k < run.methods.size(); k++) {
+            Due.due("call " + k + " of run " + i + " again", run.answer(again, k), run.answers.get(k));
+            if (!run.changedNothing(k)) {
+                Due.due("call " + k + " of run " + i + " without those that change nothing", run.answer(changes, k), run.answers.get(k));
+            }
+        }
+        Due.sameReading("run " + i + " again", again, all);
+        Due.sameReading("run " + i + " without those that change nothing", changes, begunAgain(run, i));
+    }
+
+    private static ClashDays begunAgain(Run run, int i) throws Exception {
+        ClashDays x = begun(i);
+        for (int k = 0; k < run.methods.size(); k++) {
+            run.answer(x, k);
+        }
+        return x;
+    }
+
+    /** The objects are made ahead of what is measured; each is used for fewer than 512 calls. */
     private static void makesNothing() {
         com.sun.management.ThreadMXBean counts = (com.sun.management.ThreadMXBean) ManagementFactory.getThreadMXBean();
-        ClashDays x = Due.withBook(BOOK);
         long me = Thread.currentThread().getId();
         counts.getThreadAllocatedBytes(me);
-        seen(x);
-        everyCall(x);
-        long before = counts.getThreadAllocatedBytes(me);
-        for (int i = 0; i < 200; i++) {
-            everyCall(x);
+        everyCall(Due.made(BOOK));
+        ClashDays[] made = new ClashDays[40];
+        for (int i = 0; i < made.length; i++) {
+            made[i] = Due.made(BOOK);
         }
-        long made = counts.getThreadAllocatedBytes(me) - before;
-        Due.due("bytes made by calls (" + made + ") are few", made < 20000 ? 1 : 0, 1);
+        long before = counts.getThreadAllocatedBytes(me);
+        for (ClashDays x : made) {
+            for (int i = 0; i < 5; i++) {
+                everyCall(x);
+            }
+        }
+        long bytes = counts.getThreadAllocatedBytes(me) - before;
+        Due.due("bytes made by calls (" + bytes + ") are few", bytes < 20000 ? 1 : 0, 1);
     }
 
     private static void everyCall(ClashDays x) {
@@ -138,7 +150,20 @@ final class AnyArgumentsTest {
         x.best(0, 0, 2, 0);
         x.lawful(0, 0);
         x.measure(0, 0, 0);
-        seen(x);
+        for (int what = 0; what < 7; what++) {
+            x.plan(0, 0, what);
+            x.candOf(0, what);
+            x.paperOf(0, what);
+            x.status(what);
+        }
+        x.sits(0, 0, 0, 1);
+        x.does(0, 0, 6);
+        x.time(0, 0);
+        x.watch(2);
+        x.pieces(0, 0, 1);
+        x.left(0, 0, 6);
+        x.element(0, 1);
+        x.holds(0);
         x.back();
         x.paper(0, 1, 1);
         x.cand(0, 0);

@@ -170,7 +170,6 @@ final class BookTest {
     }
 
     private static void booksRefused() {
-        ClashDays x = new ClashDays();
         String[] texts = {"", "   ", ";", "paper", "paper 5 0 1", "paper 0 48 1", "paper 0 0 0", "paper 0 0 13",
             "paper 0 0 1;", "paper 0 0 1 ;  ", "paper 0 0 1 2", "paper 0 0 1paper", "paper 000 0 1", "paper 0;",
             "papers 0 0 1", "Paper 0 0 1", "pap er 0 0 1", "cand 6 0", "cand 0 10", "cand 0 x", "cand 0  ", "takes 0 0",
@@ -184,12 +183,14 @@ final class BookTest {
             5, 5, 6, 6, 5, 5, 0, 6, 7,
             4, 6, 8, 5, 5};
         for (int i = 0; i < texts.length; i++) {
-            Due.book(x, texts[i], -600 - faults[i]);
-            Due.due("19 refused", x.status(12), i + 1);
-            Due.due("19 tape", x.status(7), 0);
-            Due.due("19 nothing", x.status(0) + x.status(1) + x.status(2), 0);
-            Due.due("19 nothing", x.status(3) * 10 + x.status(4), 241);
+            ClashDays y = new ClashDays();
+            Due.book(y, texts[i], -600 - faults[i]);
+            Due.due("19 refused", y.status(12), 1);
+            Due.due("19 tape", y.status(7), 0);
+            Due.due("19 nothing", y.status(0) + y.status(1) + y.status(2), 0);
+            Due.due("19 nothing", y.status(3) * 10 + y.status(4), 241);
         }
+        ClashDays x = new ClashDays();
         Due.book(x, "paper 0 0 1;paper 0 0 1;paper 0 0 1;paper 0 0 1;paper 0 0 1;cand 0 0", 6);
         Due.book(x, "takes 0 0;takes 0 1;takes 0 2;takes 0 3;takes 0 3;takes 0 4", -600 - 58);
         Due.due("19 nothing", x.candOf(0, 3), 0);

@@ -224,7 +224,8 @@ final class FollowTest {
     }
 
     /** Ten who are kept three times on each of three days. */
-    private static void manyDuties() {
+    /** Twelve papers of three days, and ten who take them all; an object that has used up 142 calls. */
+    private static ClashDays tenTimesTwelve() {
         ClashDays x = new ClashDays();
         for (int p = 0; p < 12; p++) {
             x.paper(p / 4, 0, 1);
@@ -235,10 +236,18 @@ final class FollowTest {
                 x.takes(c, p, 1);
             }
         }
-        dueWatch(x, 90, 10, 10);
-        for (int i = 0; i < 90; i++) {
-            dueDuty(x, i, i % 10, i / 30, i / 10 % 3 * 2 + 1, 1, i % 10);
+        return x;
+    }
+
+    private static void manyDuties() {
+        for (int part = 0; part < 3; part++) {
+            ClashDays x = tenTimesTwelve();
+            for (int i = part * 30; i < part * 30 + 30; i++) {
+                dueDuty(x, i, i % 10, i / 30, i / 10 % 3 * 2 + 1, 1, i % 10);
+            }
         }
+        ClashDays x = tenTimesTwelve();
+        dueWatch(x, 90, 10, 10);
         Due.due("30 no i-th", x.duty(90, 0), -52);
         x.turn(2);
         dueWatch(x, 90, 20, 20);

@@ -6,15 +6,18 @@ final class NaiveTest {
     private static ClashDays x;
     private static Naive y;
     private static String run;
+    private static int calls;
 
     public static void main(String[] args) {
-        for (int i = 0; i < 260; i++) {
+        for (int i = 0; i < 1000; i++) {
             random = new Random(1000 + i);
             run = "run " + i + " ";
             x = new ClashDays();
             y = new Naive();
+            calls = 0;
             setUp(i % 4);
-            for (int k = 0; k < 170; k++) {
+            // one step makes up to 100 calls, and what comes behind the 512th isn't promised
+            while (calls <= CALLS - 100) {
                 one(random.nextInt(60), i % 4);
             }
             y = null;
@@ -22,7 +25,10 @@ final class NaiveTest {
         Due.finish();
     }
 
+    private static final int CALLS = 512;
+
     private static void same(String call, long got, long want) {
+        calls++;
         Due.due(run + call, got, want);
     }
 
@@ -190,7 +196,7 @@ final class NaiveTest {
     private static void ask(int call, int c, int p, int day) {
         switch (call) {
             case 20:
-                all(c);
+                all(c, some(5));
                 break;
             case 21:
                 for (int what = -1; what <= 6; what++) {
@@ -231,18 +237,16 @@ final class NaiveTest {
         }
     }
 
-    private static void all(int c) {
-        for (int day = -1; day <= 5; day++) {
-            for (int what = -1; what <= 7; what++) {
-                same("plan " + c + " " + day + " " + what, x.plan(c, day, what), y.plan(c, day, what));
-            }
-            for (int i = -1; i <= 4; i++) {
-                int what = some(3);
-                same("sits", x.sits(c, day, i, what), y.sits(c, day, i, what));
-            }
-            for (int slot = -1; slot <= 48; slot += 1 + random.nextInt(4)) {
-                same("does", x.does(c, day, slot), y.does(c, day, slot));
-            }
+    private static void all(int c, int day) {
+        for (int what = -1; what <= 7; what++) {
+            same("plan " + c + " " + day + " " + what, x.plan(c, day, what), y.plan(c, day, what));
+        }
+        for (int i = -1; i <= 4; i++) {
+            int what = some(3);
+            same("sits", x.sits(c, day, i, what), y.sits(c, day, i, what));
+        }
+        for (int slot = -1; slot <= 48; slot += 1 + random.nextInt(4)) {
+            same("does", x.does(c, day, slot), y.does(c, day, slot));
         }
     }
 

@@ -27,7 +27,8 @@ final class Reading {
     private void all() {
         shelves();
         things();
-        for (int c = 0; c < x.status(1); c++) {
+        int cands = x.status(1);
+        for (int c = 0; c < cands; c++) {
             for (int day = 0; day < 3; day++) {
                 for (int what = 0; what < 6; what++) {
                     see(x.plan(c, day, what));
@@ -35,7 +36,8 @@ final class Reading {
                 see(x.pieces(c, day, 1));
             }
         }
-        for (int r = 0; r < x.status(2); r++) {
+        int rooms = x.status(2);
+        for (int r = 0; r < rooms; r++) {
             see(x.left(r, 0, 4));
         }
         see(x.watch(0));
@@ -61,10 +63,12 @@ final class Reading {
         for (int what = 0; what < 10; what++) {
             see(x.status(what));
         }
-        for (int p = 0; p < x.status(0); p++) {
+        int papers = x.status(0);
+        for (int p = 0; p < papers; p++) {
             see(x.paperOf(p, 0) * 10000 + x.paperOf(p, 1) * 100 + x.paperOf(p, 2));
         }
-        for (int c = 0; c < x.status(1); c++) {
+        int cands = x.status(1);
+        for (int c = 0; c < cands; c++) {
             for (int what = 0; what < 4; what++) {
                 see(x.candOf(c, what));
             }
