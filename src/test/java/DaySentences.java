@@ -335,6 +335,13 @@ final class DaySentences {
         does(y, 0, 0, 46, ".1");
         does(y, 0, 1, 0, "0.");
 
+        // also if one can't on that day
+        ClashDays cant = Due.made("paper 0 47 3;paper 1 47 2;cand 0 0;takes 0 0 1;night 0;hours 8;paper 1 0 7;takes 0 2");
+        plan(cant, 0, 1, 0, 0, -1, 4, 3, 0);
+        does(cant, 0, 1, 0, "000.......");
+        due("a sitting", cant.pieces(0, 1, 0), 1);
+        due("nothing of day 1", cant.does(0, 2, 0), -1);
+
         of("the next DAY's AHEAD is its TIME, and FREE that and REST");
         ClashDays z = Due.made("paper 0 40 9;cand 4 9;cand 1 5;takes 0 0;takes 1 0;night 0;night 1");
         plan(z, 0, 1, 1, 0, -1, 17, 9, 0);
