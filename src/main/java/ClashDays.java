@@ -44,7 +44,7 @@ public final class ClashDays {
     private final Shelves shelves = new Shelves();
     private final int[] refusals = new int[REFUSAL_SORTS];
     private final Planner planner = new Planner();
-    private final Weeks weeks = new Weeks(now, planner);
+    private final Weeks weeks = new Weeks();
     private final Week trial = new Week();
     private final Duties duties = new Duties();
     private final Seats seats = new Seats();
@@ -262,7 +262,7 @@ public final class ClashDays {
             case 2: return now.nightOf[cand];
             case 3: return now.takesOf[cand];
             case 4: return now.restFor(cand);
-            case 5: return weeks.of(cand).cants();
+            case 5: return weeks.of(now, cand).cants();
             default: return refuse(BAD);
         }
     }
@@ -292,7 +292,7 @@ public final class ClashDays {
         if (!now.hasCand(cand) || !isDay(day)) {
             return refuse(BAD);
         }
-        Week week = weeks.of(cand);
+        Week week = weeks.of(now, cand);
         switch (what) {
             case 0: return week.can[day] ? 1 : 0;
             case 1: return Long.bitCount(week.kept[day]);
@@ -309,7 +309,7 @@ public final class ClashDays {
         if (!now.hasCand(cand) || !isDay(day)) {
             return refuse(BAD);
         }
-        Week week = weeks.of(cand);
+        Week week = weeks.of(now, cand);
         if (i < 0 || i >= week.count[day]) {
             return refuse(BAD);
         }
@@ -326,14 +326,14 @@ public final class ClashDays {
         if (!now.hasCand(cand) || !isDay(day) || !isSlot(slot)) {
             return refuse(BAD);
         }
-        return weeks.of(cand).deed(day, slot);
+        return weeks.of(now, cand).deed(day, slot);
     }
 
     public int measure(int cand, int day, int by) {
         if (!now.hasCand(cand) || !isDay(day) || !isMeasure(by)) {
             return refuse(BAD);
         }
-        Week week = weeks.of(cand);
+        Week week = weeks.of(now, cand);
         if (!week.can[day] || week.over[day] != NONE || week.count[day] == 0) {
             return refuse(STUCK);
         }
@@ -344,7 +344,7 @@ public final class ClashDays {
         if (!now.hasCand(cand) || !isDay(day) || !isMeasure(by)) {
             return refuse(BAD);
         }
-        Orders orders = planner.ordersOf(now, cand, day, weeks.of(cand));
+        Orders orders = planner.ordersOf(now, cand, day, weeks.of(now, cand));
         if (orders.count() == 0 || !orders.search(by, 0L)) {
             return NONE;
         }
@@ -361,7 +361,7 @@ public final class ClashDays {
         if (!now.hasCand(cand) || !isDay(day)) {
             return refuse(BAD);
         }
-        Orders orders = planner.ordersOf(now, cand, day, weeks.of(cand));
+        Orders orders = planner.ordersOf(now, cand, day, weeks.of(now, cand));
         orders.search(BY_KEPT, 0L);
         return orders.lawfulOnes();
     }
@@ -542,7 +542,7 @@ public final class ClashDays {
         }
         int bits = 0;
         for (int c = 0; c < now.cands; c++) {
-            if (weeks.of(c).deed(day, slot) == paper) {
+            if (weeks.of(now, c).deed(day, slot) == paper) {
                 bits |= 1 << c;
             }
         }
@@ -668,7 +668,7 @@ public final class ClashDays {
     private int lateOnesOf(int paper) {
         int n = 0;
         for (int c = 0; c < now.cands; c++) {
-            if (weeks.of(c).beginsLate(now, paper)) {
+            if (weeks.of(now, c).beginsLate(now, paper)) {
                 n++;
             }
         }
@@ -680,7 +680,7 @@ public final class ClashDays {
         for (int day = 0; day < DAYS; day++) {
             boolean somebody = false;
             for (int c = 0; c < now.cands && !somebody; c++) {
-                somebody = !weeks.of(c).can[day];
+                somebody = !weeks.of(now, c).can[day];
             }
             if (somebody) {
                 n++;
@@ -692,7 +692,7 @@ public final class ClashDays {
     /** The days one can't, with one paper of the draft changed; the draft is as it was behind that. */
     private int cantsFlipped(int cand, int paper) {
         draft.flip(cand, paper);
-        trial.become(weeks.of(cand));
+        trial.become(weeks.of(now, cand));
         planner.replan(draft, cand, draft.dayOf[paper], trial);
         draft.flip(cand, paper);
         return trial.cants();
@@ -707,7 +707,7 @@ public final class ClashDays {
             draft.startOf[paper] = v;
             for (int c = 0; c < draft.cands; c++) {
                 if (draft.doesTake(c, paper)) {
-                    trial.become(weeks.of(c));
+                    trial.become(weeks.of(now, c));
                     planner.replan(draft, c, draft.dayOf[paper], trial);
                     cantsByStart[v] += trial.cants();
                     keptByStart[v] += trial.keptSlots();
@@ -731,7 +731,7 @@ public final class ClashDays {
     }
 
     private int firstWrong(int cand, int day, int s, int n) {
-        Week week = weeks.of(cand);
+        Week week = weeks.of(now, cand);
         int bits = now.takesOf[cand] & now.papersOf(day);
         int next = week.free[day];
         int total = week.ahead[day];
@@ -1675,21 +1675,19 @@ public final class ClashDays {
 
     /** The weeks of all candidates, planned when they are asked for and kept until something changes. */
     private static final class Weeks {
-        private final Book book;
-        private final Planner planner;
+        private final Planner planner = new Planner();
         private final Week[] weeks = new Week[MAX_CANDS];
         private final boolean[] known = new boolean[MAX_CANDS];
         private int edition = 1;
 
-        Weeks(Book book, Planner planner) {
-            this.book = book;
-            this.planner = planner;
+        Weeks() {
             for (int c = 0; c < MAX_CANDS; c++) {
                 weeks[c] = new Week();
             }
         }
 
-        Week of(int cand) {
+        /** The book is the same one at each call; the planner is not the face's, so its orders stay as they are. */
+        Week of(Book book, int cand) {
             Week week = weeks[cand];
             if (!known[cand]) {
                 for (int day = 0; day < DAYS; day++) {
@@ -1766,7 +1764,7 @@ public final class ClashDays {
             for (int day = 0; day < DAYS; day++) {
                 for (int slot = 0; slot < SLOTS; slot++) {
                     for (int c = 0; c < book.cands; c++) {
-                        add(c, day, slot, weeks.of(c).dutyFrom(day, slot));
+                        add(c, day, slot, weeks.of(book, c).dutyFrom(day, slot));
                     }
                 }
             }
@@ -1873,7 +1871,7 @@ public final class ClashDays {
                 full[r] = 0L;
             }
             for (int c = 0; c < book.cands; c++) {
-                pieces[c] = weeks.of(c).piecesOf(day, piece);
+                pieces[c] = weeks.of(book, c).piecesOf(day, piece);
                 seat(book, c);
             }
         }
